@@ -26,7 +26,7 @@ public final class LampYard {
     private final Course course;
     private final Course[] boxes;
     private final Logs logs;
-    // These three are made when first asked for: each takes more room than all else.
+    // These three take much room, so each is made when first asked for.
     private Survey survey;
     private Faults faults;
     private Chance chance;

@@ -112,7 +112,9 @@ public final class PromisesTest {
         yard.lead(0);
         yard.log(4, 1);
         yard.later(9);
-        yard.image(2);
+        for (int box = 0; box < 3; box++) {
+            yard.image(box);
+        }
         check.same("4: a fault", Yard.read(yard, "role"), -1);
         check.same("4: tape is empty behind a fault", yard.about(8), 0);
         check.same("4: day stays", yard.about(3), 1);
@@ -120,13 +122,17 @@ public final class PromisesTest {
         check.same("4: men stay", yard.about(0), 3);
         check.same("4: rules stay", yard.about(2), 3);
         check.same("4: logs stay", yard.about(6), 1);
-        check.same("4: boxes stay", yard.back(2), 1);
+        for (int box = 0; box < 3; box++) {
+            check.same("4: boxes stay", yard.back(box), 1);
+        }
         check.same("4: right stays", yard.right(), 1);
         check.same("4: another", Yard.read(yard, "start on;lamps 2;role a men 4 holds 9;"), 4);
         check.same("4: begun", yard.about(3), 0);
         check.same("4: begun with 0 even so", yard.about(4), 0);
         check.same("4: no logs", yard.about(6), 0);
-        check.same("4: boxes are empty", yard.back(2), -1);
+        for (int box = 0; box < 3; box++) {
+            check.same("4: boxes are empty", yard.back(box), -1);
+        }
         check.same("4: time goes on", yard.about(7), 9);
         check.same("4: another's states", yard.states(0), 256);
         check.same("4: logs begin again", yard.log(0, 0), 0);
@@ -592,6 +598,12 @@ public final class PromisesTest {
             check.same("20: wrong without", wrong.bears(fault), 0);
             check.same("20: no men", new LampYard().bears(fault), 1);
         }
+        // Only if he himself forgets does he take it for another's lamp.
+        String own = "men 1 holds 3;rule X when lamps and not visits set 0 hold 3 say;rule X when 1 set 1 hold 3;";
+        check.same("20: the first man forgets", Yard.with(("role X " + own).replace("X", "a")
+                + "role b men 1 holds 0;").bears(0), 0);
+        check.same("20: the last man forgets", Yard.with("role b men 1 holds 0;"
+                + ("role X " + own).replace("X", "a")).bears(0), 0);
         // He says by the second lamp alone: the first one may change, but not go with all of them.
         String second = "lamps 2;start on;role a men 2 holds 0;";
         check.same("20: all go off", Yard.with(second + "rule a when lamps<2 set 3 hold 0 say;").bears(1), 0);
