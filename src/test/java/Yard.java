@@ -40,6 +40,23 @@ final class Yard {
         return answers.toString().trim();
     }
 
+    /** All that can be seen of the course, the plan, its last fault and the logs without changing them. */
+    static String seen(LampYard yard) {
+        StringBuilder seen = new StringBuilder();
+        for (int what = 0; what < 10; what++) {
+            seen.append(yard.about(what)).append(' ');
+        }
+        int time = yard.about(7);
+        for (int man = 0; man < yard.about(0); man++) {
+            for (int what = 0; what < 5; what++) {
+                seen.append(yard.man(man, what)).append(' ');
+            }
+            seen.append(yard.last(man, time)).append(' ');
+        }
+        seen.append(yard.fault(0)).append(' ').append(yard.fault(1)).append(' ').append(yard.logged(0, time));
+        return seen.append(' ').append(yard.logged(1, time)).append(' ').append(yard.agrees(0, time)).toString();
+    }
+
     private static int number(byte[] bytes, int from) {
         int number = 0;
         for (int i = from; i < from + 4; i++) {
