@@ -51,6 +51,14 @@ public final class CourseBoundsTest {
         check.yes("begun again", over.begin(1));
         check.same("not over any more", Yard.leads(over, 0), "1");
         check.yes("nobody there", new LampYard().begin(1));
+        LampYard logged = Yard.with(TURNS);
+        logged.log(7, 1);
+        logged.later(5);
+        logged.feed(0, 0, 0, 0, 0);
+        logged.begin(2);
+        check.same("logs stay", logged.last(1, 5), 7);
+        check.same("the time stays", logged.about(7), 5);
+        check.same("the tape stays", logged.about(8), 20);
 
         check.sentence("6: false, doing nothing, if LAMPS can't be so");
         for (String line : new String[] {"lamps 1;", "lamps 2;", "lamps 1;start on;", "lamps 2;start any;"}) {
@@ -449,8 +457,9 @@ public final class CourseBoundsTest {
         LampYard yard = Yard.with(TURNS);
         String[] kept = new String[3];
         for (int box = 0; box < 3; box++) {
-            check.same("the day", yard.image(box), 2 * box);
             kept[box] = Yard.seen(yard);
+            check.same("the day", yard.image(box), 2 * box);
+            check.same("it goes on from there", Yard.seen(yard), kept[box]);
             Yard.leads(yard, box, 2);
         }
         for (int box : new int[] {1, 0, 2, 0, 1}) {

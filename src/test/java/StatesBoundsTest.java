@@ -24,6 +24,7 @@ public final class StatesBoundsTest {
         test.most();
         test.bears();
         test.spentWithAFault();
+        test.onePlanBehindAnother();
         test.check.close("StatesBoundsTest");
     }
 
@@ -76,7 +77,9 @@ public final class StatesBoundsTest {
         for (int what = 0; what < 3; what++) {
             check.same("states " + what, yard.states(what), fresh.states(what));
         }
-        check.same("soonest", yard.soonest(), 4);
+        String before = Yard.seen(yard);
+        check.same("all that is found", found(yard), found(fresh));
+        check.same("the course stays", Yard.seen(yard), before);
         check.same("over still", yard.about(5), 1);
     }
 
@@ -233,6 +236,12 @@ public final class StatesBoundsTest {
                 + "rule a when 1 set 1 hold 0;rule c when 1 set 2 hold 0;"), 0, 0, 2);
         row(Yard.with("role a men 3 holds 0;rule a when lamps and not visits set 1 hold 0 say;"
                 + "rule a when visits=1 set 1 hold 0;"), 0, 0, 0, 1);
+
+        // Only man 5 puts it on, then man 0 says; only man 1, then man 2.
+        row(Yard.with("role a men 5 holds 0;role b men 1 holds 0;rule b when 1 set 1 hold 0;"
+                + "rule a when lamps set 0 hold 0 say;"), 0, 5, 0);
+        row(Yard.with("role a men 1 holds 0;role b men 1 holds 0;role c men 1 holds 0;rule b when 1 set 1 hold 0;"
+                + "rule c when lamps set 0 hold 0 say;"), 0, 1, 2);
 
         check.sentence("14: The i-th of them (from 0 on); NONE if there is none such");
         LampYard three = Yard.with("start any;" + COUNTING);
@@ -394,6 +403,12 @@ public final class StatesBoundsTest {
         // Wrong words only if the lamp changes twice, ahead of two days.
         bears("not twice", "role a men 2 holds 0;rule a when lamps and holds set 0 hold 0 say;"
                 + "rule a when lamps set 0 hold 1;", "111");
+        // Wrong from the first day on, but never once the lamp has changed.
+        bears("not at all is at most once", "role a men 1 holds 0;role b men 1 holds 0;"
+                + "rule a when not visits and not lamps set 0 hold 0 say;", "000");
+        // The lamp that changed is seen on one day, and the wrong word comes on another.
+        bears("days behind it", "role a men 2 holds 0;rule a when lamps and not visits set 0 hold 1;"
+                + "rule a when holds set 0 hold 0 say;", "110");
         bears("once", "role a men 2 holds 0;rule a when lamps set 0 hold 0 say;", "110");
 
         check.sentence("20: 0: one MAN FORGETS");
@@ -458,5 +473,45 @@ public final class StatesBoundsTest {
         check.same("without a fault it is not spent", six.right(), 1);
         // Spent is told, though it is wrong without a fault already.
         check.same("wrong and spent", Yard.with(oneMore(4, 4, 9, 9)).bears(0), -2);
+    }
+
+    // ---- what was found of one plan is nothing to the next one
+
+    private void onePlanBehindAnother() {
+        check.sentence("4: The TAPE is the PLAN: what is found is of that one alone");
+        String[] plans = {"", COUNTING, "start any;" + COUNTING, "role a men 6 holds 0;", VERY_MANY, ONE,
+            "lamps 2;cycle 12;fails 3;start on;role a men 1 holds 9;rule a when 1 set lamps+1 hold holds-1;",
+            bounded(4, 4, 9, 9), "role a men 2 holds 31;rule a when visits set 0 hold 0 say;"};
+        String[] due = new String[plans.length];
+        for (int i = 0; i < plans.length; i++) {
+            due[i] = found(Yard.with(plans[i]));
+        }
+        for (String first : plans) {
+            for (int i = 0; i < plans.length; i++) {
+                LampYard yard = Yard.with(first);
+                found(yard);
+                Yard.read(yard, plans[i]);
+                check.same(plans[i] + " behind " + first, found(yard), due[i]);
+                check.same("asked again", found(yard), due[i]);
+            }
+        }
+    }
+
+    private static String found(LampYard yard) {
+        StringBuilder found = new StringBuilder();
+        for (int i = 0; i < 3; i++) {
+            found.append(yard.bears(i)).append(' ').append(yard.states(i)).append(' ').append(yard.shown(i)).append(' ')
+                    .append(yard.shows(i)).append(' ');
+        }
+        for (int i = 0; i < 6; i++) {
+            found.append(yard.most(i)).append(' ');
+        }
+        for (int start = 0; start < 4; start++) {
+            for (int part = 0; part < 2; part++) {
+                found.append(yard.said(start, 12, 0, part)).append('/').append(yard.said(start, 5, 1, part)).append(' ');
+            }
+        }
+        found.append(yard.right()).append(' ').append(yard.soonest()).append(' ').append(yard.ends()).append(' ');
+        return found.append(yard.endless()).append(' ').append(yard.idle()).toString();
     }
 }

@@ -158,6 +158,9 @@ public final class TextBoundsTest {
         }
         check.no("nothing of it is left", yard.begin(2));
 
+        nothingStays();
+        manyPlans();
+
         check.sentence("4: LOGS are none, BOXES empty then");
         LampYard kept = busy();
         for (int box = 0; box < 3; box++) {
@@ -194,6 +197,46 @@ public final class TextBoundsTest {
         good("role a men 6 holds 0;", 6);
         good("role a men 1 holds 0;role b men 2 holds 0;role c men 2 holds 0;role d men 1 holds 0;", 6);
         keepingAtAFault();
+    }
+
+    /** What a line is if it is not told, whatever the plans ahead have told, good ones or not. */
+    private void nothingStays() {
+        check.sentence("4: 1 if not told, (1), (never), (off): of each PLAN anew");
+        String full = "lamps 2;cycle 12;fails 1;start any;role a men 3 holds 5;role b men 3 holds 6;"
+                + "rule b when 1 set 1 hold 1;rule a when 1 set 1 hold 1 say;";
+        LampYard yard = new LampYard();
+        for (String ahead : new String[] {full, full + "$", full, full, full + "lamps 1;", "cycle 7;fails 0;role b"}) {
+            Yard.read(yard, ahead);
+            check.same("read", Yard.read(yard, "role a men 1 holds 2;rule a when 1 set lamps hold day+4;"), 1);
+            check.same("roles", yard.about(1), 1);
+            check.same("rules", yard.about(2), 1);
+            check.same("units", yard.about(9), 4);
+            check.no("one lamp", yard.begin(2));
+            check.same("off", yard.said(0, 0, 0, 1), 1);
+            check.same("not on", yard.said(1, 0, 0, 1), -1);
+            check.yes("on", yard.begin(1));
+            for (int day = 0; day < 3; day++) {
+                check.same("nobody says", yard.lead(0), 0);
+                check.same("cycle 1", yard.man(0, 1), 4);
+                check.same("it does not fail", yard.about(4), 1);
+            }
+        }
+    }
+
+    /** As many large plans one behind another as 512 calls are enough for: each is read whole. */
+    private void manyPlans() {
+        check.sentence("4: The TAPE is the PLAN, however many there were");
+        String units = "rule a when not not not not not not(0" + "+1".repeat(56) + ") set 1 hold ";
+        LampYard yard = new LampYard();
+        for (int i = 0; i < 20; i++) {
+            check.same("plan " + i, Yard.read(yard, ROLE + units + (i + 3) + ";"), 1);
+            check.same("its units", yard.about(9), 60);
+            yard.lead(0);
+            check.same("what it holds", yard.man(0, 1), i + 3);
+            check.same("another " + i, Yard.read(yard, ROLE + "rule a when 1 set 1 hold " + (i + 1) + ";"), 1);
+            yard.lead(0);
+            check.same("what it holds", yard.man(0, 1), i + 1);
+        }
     }
 
     private void keepingAtAFault() {
